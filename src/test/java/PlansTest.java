@@ -175,6 +175,10 @@ public final class PlansTest {
         bench.answers("select c from A,B where B.a=A.b/(A.a-1)", 1, 13, 3 + 1);
         bench.answers("select c from A,B where B.a=c-A.a+A.a", 12, 5, 3 + 15);
         bench.answers("select c from A,B where A.a=c and B.a=2", 1, 16 + 15, 1 + 1);
+        // A part of one table alone does not fix its column, also when the other table comes ahead.
+        bench.answers("select c from A,B where A.a=A.b and B.a=1", 1, 16 + 7, 1 + 3);
+        bench.answers("select c from B,A where A.a=A.b and B.a=1", 1, 7, 1 + 3);
+        bench = two();
         bench.done("indexB c");
         bench.answers("select c from A,B where A.a=c", 3, 16 + 13, 5 + 3);
     }

@@ -104,11 +104,11 @@ public final class RulesTest {
 
     private static void methodLengths(String bare) {
         String[] lines = bare.split("\n");
-        Matcher head = Pattern.compile("").matcher("");
+        Pattern form = Pattern.compile("^(    |        )[\\w].*\\) \\{$");
         int begin = -1;
         String indent = "";
         for (int i = 0; i < lines.length; i++) {
-            head = Pattern.compile("^(    |        )[\\w].*\\) \\{$").matcher(lines[i]);
+            Matcher head = form.matcher(lines[i]);
             if (begin < 0 && head.find()) {
                 begin = i;
                 indent = head.group(1);

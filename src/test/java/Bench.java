@@ -1,5 +1,8 @@
 /** What the tests share: an object that is worked by whole texts, and answers held against those that are due. */
 final class Bench {
+    /** The greatest and the least int as an E; a number of the text has at most nine digits. */
+    static final String MOST = "(999999999*2+147483649)";
+    static final String LEAST = "(-999999999*2-147483650)";
     private static int wrong = 0;
     private static int asked = 0;
     private static String place = "";
@@ -52,6 +55,25 @@ final class Bench {
 
     Bench done(String text) {
         return code(text, QueryTables.DONE);
+    }
+
+    /** Runs texts each of which must end with the same code. */
+    Bench codes(int want, String... texts) {
+        for (String text : texts) {
+            code(text, want);
+        }
+        return this;
+    }
+
+    /** Looks at what the document tells of a latest run that had no plan, or was not DONE. */
+    Bench tellsNothing() {
+        due("rows behind " + last, x.rows(), 0);
+        due("width behind " + last, x.width(), 0);
+        due("value behind " + last, x.value(0, 0), QueryTables.NOTHING);
+        due("reads behind " + last, x.reads(), 0);
+        due("plan behind " + last, x.plan(), 0);
+        calls += 5;
+        return this;
     }
 
     /** Runs a text and looks at all that the run is told to answer. */

@@ -171,6 +171,10 @@ public final class BoundsOfMeaningTest {
         is("-2+5", 3);
         is("-2*-2", 4);
         is("5--2", 7);
+        // It is the F that is taken from 0, not all of the P.
+        is("-" + Bench.LEAST + "/2", -1073741824);
+        is("-(" + Bench.LEAST + "/2)", 1073741824);
+        is("-2-3", -5);
     }
 
     private static void nullOfOneSide() {

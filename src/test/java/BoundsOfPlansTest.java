@@ -17,6 +17,7 @@ public final class BoundsOfPlansTest {
         noColumnOfTheSameTable();
         bracketAndNotFixNothing();
         keyIfItsColumnIsFixed();
+        accessOfAnEmptyTable();
         columnsOfTheTablesBefore();
         indexOtherwise();
         scanOtherwise();
@@ -190,6 +191,14 @@ public final class BoundsOfPlansTest {
         plans("c=1 and d=0 and a=4", KEY, 1);
         plans("a=4 and c=1", KEY, 1);
         plans("b=4", SCAN, 6);
+    }
+
+    private static void accessOfAnEmptyTable() {
+        Bench.at("the ACCESS of a table does not hang on its rows");
+        Bench bench = six().done("delete A").answers("select a from A where a=1", 0, KEY, 0).answers("select a from A where c=1", 0, INDEX, 0);
+        bench.answers("select a from A where b=1", 0, SCAN, 0).answers("update A b=1 where a=1", 0, KEY, 0).answers("delete A where c=1", 0, INDEX, 0);
+        bench = six().done("delete A where a>1").answers("select a from A where c=1", 1, INDEX, 1).answers("select a from A where b=1", 1, SCAN, 1);
+        bench.answers("select a from A where a=1", 1, KEY, 1).answers("select a from A where a=2", 0, KEY, 0);
     }
 
     /** A has 3 rows, B has 5; neither has an index. */

@@ -35,8 +35,10 @@ public final class BoundsOfStatementsTest {
         deepestNot();
         deepestOfBothSorts();
         deepestEverywhere();
+        farTooDeep();
         nestsSideBySide();
         mostE();
+        eachByItself();
         Bench.end();
     }
 
@@ -343,6 +345,19 @@ public final class BoundsOfStatementsTest {
         each(NAME, "select " + right + " from B", "insert B " + right);
     }
 
+    /** Texts that are one character, or nearly so, to the end of the room. */
+    private static void farTooDeep() {
+        Bench.at("a nest may lie in at most 7 others, not in as many as the text has room for");
+        for (char c = 32; c < 127; c++) {
+            String full = String.valueOf(c).repeat(80);
+            new Bench().code(full, SYNTAX);
+            each(SYNTAX, "select " + full.substring(7), "delete A where " + full.substring(15), "insert A " + full.substring(9));
+        }
+        each(SYNTAX, "select " + "-".repeat(60) + "a from A", "select " + nested("(", 32, "a", ")") + " from A");
+        each(SYNTAX, "delete A where " + nested("[", 31, "a=1", "]"), "delete A where " + "not ".repeat(15) + "a=1");
+        each(SYNTAX, "select " + "(-".repeat(20) + "a" + ")".repeat(20) + " from A", "delete A where " + nested("[not", 10, "[a=1]", "]"));
+    }
+
     private static void nestsSideBySide() {
         Bench.at("a nest lies only in those around it");
         is(nested("(", 8, "1", ")") + "+" + nested("(", 8, "2", ")") + "*" + nested("(", 8, "3", ")"), 7);
@@ -353,6 +368,11 @@ public final class BoundsOfStatementsTest {
         holds("[[[[[[[[a=1]]]]]]]]and[[[[[[[[a=1]]]]]]]]", true);
         tables().done("select a from A where [[[[[[[[a=1]]]]]]]] order ((((((((a))))))))").result(1, 1);
         each(SYNTAX, "select (((((((-1-(2)-(3)-(-4)))))))) from A");
+        // A - or not ends with its own F or N.
+        is("-1*" + nested("(", 8, "2", ")"), -2);
+        is(nested("(", 8, "2", ")") + "*-1", -2);
+        holds("not a=2 and[[[[[[[[a=1]]]]]]]]", true);
+        holds("not a=1 or[[[[[[[[a=1]]]]]]]]", true);
     }
 
     private static void mostE() {
@@ -365,5 +385,22 @@ public final class BoundsOfStatementsTest {
         tables().done("select a,b,a+b from A order b limit 1").result(3, 1, 5, 6);
         each(SYNTAX, "select a,b,a,b from B", "select a,b,a,z from A", "select a,b,a, from A", "select a,b,a,b from A,C", "select from A");
         Bench.with("create A 4", "insert A 1,2,3,4").table(0, 4, 1, 2, 3, 4);
+    }
+
+    /** What a text leaves out is not taken from the one before it. */
+    private static void eachByItself() {
+        Bench.at("a statement is told by its own text alone");
+        Bench bench = Bench.with("create A 2", "insert A 1,5", "insert A 2,6", "insert A 3,null");
+        bench.done("select -a from A where a>1 order a desc limit 1").result(1, -3);
+        bench.done("select -a from A").result(1, -1, -2, -3);
+        bench.done("select -a from A order -a").result(1, -3, -2, -1);
+        bench.done("select -a from A where b<9").result(1, -1, -2).done("select b from A limit 2").result(1, 5, 6);
+        bench.done("select 0-a,b from A").result(2, -1, 5, -2, 6, -3, QueryTables.NULL);
+        bench.done("select a from A where a=1 or a=2").result(1, 1, 2).done("update A b=a").table(0, 2, 1, 1, 2, 2, 3, 3);
+        bench = Bench.with("create A 2", "create B 2", "insert A 1,5", "insert A 2,6", "insert B 1,7", "insert B 2,8");
+        bench.done("select A.a,B.a from A,B where A.a=1 and B.a=2").result(2, 1, 2).done("select a from B").result(1, 1, 2);
+        bench.code("select A.a from A,B where A.a=1 order A.a desc limit", SYNTAX).done("select -a from A").result(1, -1, -2);
+        bench.code("select A.a from A,B where A.c=1 limit 1", NAME).answers("select a from B", 2, 1, 2).answers("delete A", 2, 1, 2);
+        bench.code("select A.a from A where", SYNTAX).answers("delete B", 2, 1, 2);
     }
 }

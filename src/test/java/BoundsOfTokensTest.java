@@ -56,6 +56,10 @@ public final class BoundsOfTokensTest {
         for (int i = 1; i < end; i++) {
             each(SYNTAX, ahead + word.substring(0, i) + " " + word.substring(i) + behind);
         }
+        for (int i = 0; i < end; i++) {
+            String other = word.charAt(i) == 'x' ? "y" : "x";
+            each(SYNTAX, ahead + word.substring(0, i) + other + word.substring(i + 1) + behind);
+        }
     }
 
     private static void wordsHaveTheLettersAToZ() {

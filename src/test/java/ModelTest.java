@@ -533,8 +533,14 @@ public final class ModelTest {
             }
             return e(1) + pick("=", "<", ">", "<", ">") + e(1);
         }
+        /** A part that, more often than others, fixes a column of a table, by a number or by the other table. */
+        String fixing(int t, int other) {
+            boolean byOther = other != t && chance(40);
+            return name(t) + "." + columnName(t) + "=" + (byOther ? name(other) + "." + columnName(other) : "" + random.nextInt(5));
+        }
         String c(int depth) {
-            String text = n(depth);
+            int last = named[named.length - 1];
+            String text = chance(75) ? n(depth) : fixing(last, named[0]) + (chance(60) ? " and " + fixing(named[0], last) : "");
             for (int i = 0; i < 3 && chance(40); i++) text += (chance(75) ? " and " : " or ") + n(depth);
             return text;
         }
@@ -591,11 +597,21 @@ public final class ModelTest {
                 default -> text.substring(0, i);
             };
         }
+        /** Tokens as they come, now and then behind the beginning of a statement. */
+        String soup() {
+            String text = pick("", "select ", "select a from A where ", "update A b=", "delete A where ", "insert A ");
+            for (int i = random.nextInt(12); i >= 0; i--) {
+                text += pick("a", "b", "A", "B", "1", "0", "null", "(", ")", "[", "]", ",", ".", "+", "-", "*", "/", "=", "<", ">", "not", "and",
+                        "or", "from", "where", "order", "desc", "limit", "=1", "a=", "A.a", "B.b") + pick("", " ", " ");
+            }
+            return text;
+        }
         String text(int turn) {
             int kind = random.nextInt(100);
             String text = turn < 2 ? create() : turn < 5 && !fillsUp() ? index() : turn < fill ? (fillsUp() ? insert() : kind < 10 ? index() : kind < 15 ? create() : insert())
                     : kind < 5 ? create() : kind < 10 ? index() : kind < 25 ? insert() : kind < 45 ? change() : select();
             if (chance(4)) text = spoilt(text);
+            if (turn >= fill && chance(5)) text = soup();
             return text.length() > 80 ? text.substring(0, 80) : text;
         }
     }

@@ -24,6 +24,15 @@ final class Bench {
         return bench;
     }
 
+    /** Table A of one column with so many rows, whose keys are 0, 1, 2 .. */
+    static Bench filled(int rows) {
+        Bench bench = with("createA1");
+        for (int k = 0; k < rows; k++) {
+            bench.done("insertA" + k);
+        }
+        return bench;
+    }
+
     static void due(String call, long got, long want) {
         asked++;
         if (got != want) {

@@ -208,17 +208,9 @@ public final class BoundsOfCodesTest {
         bench.done("insert A 4,3").done("insert A 5,null").table(0, 2, 1, 1, 2, 2, 3, 3, 4, 3, 5, NULL);
     }
 
-    private static Bench filled(int rows) {
-        Bench bench = Bench.with("createA1");
-        for (int k = 0; k < rows; k++) {
-            bench.done("insertA" + k);
-        }
-        return bench;
-    }
-
     private static void roomOfInsert() {
         Bench.at("ROOM (5): insert finds 20 rows");
-        Bench bench = filled(18).done("insertA90").done("insertA91").code("insertA92", ROOM).tellsNothing().code("insertA-1", ROOM);
+        Bench bench = Bench.filled(18).done("insertA90").done("insertA91").code("insertA92", ROOM).tellsNothing().code("insertA-1", ROOM);
         Bench.due("size", bench.x.size(0), 20);
         Bench.due("first", bench.x.cell(0, 0, 0), 0);
         Bench.due("last", bench.x.cell(0, 19, 0), 91);
@@ -260,7 +252,7 @@ public final class BoundsOfCodesTest {
 
     private static void roomOfSelectOnly() {
         Bench.at("ROOM (5) is not for update and delete");
-        Bench bench = filled(20).answers("updateAa=a+1", 20, 1, 20).answers("select a from A", 20, 1, 20).answers("deleteA", 20, 1, 20);
+        Bench bench = Bench.filled(20).answers("updateAa=a+1", 20, 1, 20).answers("select a from A", 20, 1, 20).answers("deleteA", 20, 1, 20);
         bench.done("insertA1").table(0, 1, 1);
     }
 
@@ -268,7 +260,7 @@ public final class BoundsOfCodesTest {
         Bench.at("the first that is due in the order: SYNTAX first");
         each(SYNTAX, "select c,z from A", "create A 9 9", "create A -1", "insert A null,1,", "insert A 1,", "select a,b,a,c from A,A");
         each(NAME, "select c from A", "create A 9", "select a,b,a from A,A");
-        filled(20).code("insertA90,", SYNTAX).code("insertA0)", SYNTAX).code("insertA90", ROOM);
+        Bench.filled(20).code("insertA90,", SYNTAX).code("insertA0)", SYNTAX).code("insertA90", ROOM);
         seventy().code("select b,b,b,b from A,B", SYNTAX).code("select b from A,B limit -1", SYNTAX).code("select b from A,B", ROOM);
     }
 
@@ -282,7 +274,7 @@ public final class BoundsOfCodesTest {
         Bench.at("the first that is due in the order: NAME before KEY and ROOM");
         each(NAME, "insert A null,a", "insert A 1,a", "update A a=null where c=1", "update A a=c/0", "update A a=1/0 where B.a=1", "insert C null");
         each(KEY, "insert A null,2", "insert A 1,2", "update A a=null", "update A a=a/0 where a=1");
-        filled(20).code("insertB1", NAME).code("insertA a", NAME).code("insertA90", ROOM);
+        Bench.filled(20).code("insertB1", NAME).code("insertA a", NAME).code("insertA90", ROOM);
         seventy().code("select c from A,B", NAME).code("select b from A,B order c", NAME).code("select b from A,B", ROOM);
     }
 
@@ -290,13 +282,13 @@ public final class BoundsOfCodesTest {
         Bench.at("the first that is due in the order: COUNT before KEY and ROOM");
         each(COUNT, "insert A null", "insert A 1", "insert A 1,2,3", "insert A null,2,3");
         each(KEY, "insert A null,2", "insert A 1,2");
-        filled(20).code("insertA90,1", COUNT).code("insertA0,1", COUNT).code("insertA null,1", COUNT).code("insertA90", ROOM);
+        Bench.filled(20).code("insertA90,1", COUNT).code("insertA0,1", COUNT).code("insertA null,1", COUNT).code("insertA90", ROOM);
     }
 
     private static void keyBeforeRoom() {
         Bench.at("the first that is due in the order: KEY before ROOM");
-        filled(20).code("insertA0", KEY).code("insertA19", KEY).code("insertA null", KEY).code("insertA20", ROOM).code("insertA-1", ROOM);
-        filled(19).code("insertA0", KEY).code("insertA null", KEY).done("insertA20");
+        Bench.filled(20).code("insertA0", KEY).code("insertA19", KEY).code("insertA null", KEY).code("insertA20", ROOM).code("insertA-1", ROOM);
+        Bench.filled(19).code("insertA0", KEY).code("insertA null", KEY).done("insertA20");
     }
 
     private static void nothingChanges() {
@@ -317,7 +309,7 @@ public final class BoundsOfCodesTest {
 
     private static void nothingChangesWhenFull() {
         Bench.at("With ROOM nothing of the tables changes");
-        Bench bench = filled(20).code("insertA-5", ROOM).code("insertA55", ROOM);
+        Bench bench = Bench.filled(20).code("insertA-5", ROOM).code("insertA55", ROOM);
         for (int k = 0; k < 20; k++) {
             Bench.due("cell " + k, bench.x.cell(0, k, 0), k);
         }

@@ -96,17 +96,9 @@ public final class BoundsOfTablesTest {
         }
     }
 
-    private static Bench filled(int rows) {
-        Bench bench = Bench.with("createA1");
-        for (int k = 0; k < rows; k++) {
-            bench.done("insertA" + k);
-        }
-        return bench;
-    }
-
     private static void twentyRows() {
         Bench.at("at most 20 ROWS");
-        Bench bench = filled(19);
+        Bench bench = Bench.filled(19);
         Bench.due("size", bench.x.size(0), 19);
         bench.done("insertA50");
         Bench.due("size", bench.x.size(0), 20);
@@ -121,7 +113,7 @@ public final class BoundsOfTablesTest {
 
     private static void twentyRowsEach() {
         Bench.at("each with .. at most 20 ROWS");
-        Bench bench = filled(20).done("createB1");
+        Bench bench = Bench.filled(20).done("createB1");
         for (int k = 0; k < 20; k++) {
             bench.done("insertB" + k);
         }

@@ -9,64 +9,35 @@ import java.util.TreeSet;
 import java.util.regex.Matcher;
 import java.util.regex.Pattern;
 
-/** Those rules of LANGUAGE.md that a program can look at: the face, what is static, and words that may not stand. */
+/** Those rules of LANGUAGE.md that a program can look at: names, what is static, and words that may not stand. */
 public final class RulesTest {
-    private static final String FACE = "cell(int,int,int)long columns(int)int count(int,int,long)int erase()boolean "
-            + "indexed(int,int)boolean length()int plan()int reads()int rows()int run()int size(int)int type(char)boolean "
-            + "value(int,int)long width()int";
-    private static final String CONSTANTS = "COUNT DONE KEY NAME NOTHING NULL ROOM SYNTAX";
-
     public static void main(String[] args) throws IOException {
         Bench.at("rules");
-        face();
+        names();
         fields();
         nested();
         source();
         Bench.end();
     }
 
-    private static void same(String what, String got, String want) {
-        Bench.due(what + " is " + got, got.equals(want), true);
-    }
-
-    private static void face() {
-        TreeSet<String> methods = new TreeSet<>();
+    private static void names() {
         TreeSet<String> names = new TreeSet<>();
-        for (Method m : QueryTables.class.getDeclaredMethods()) {
-            if (!Modifier.isPrivate(m.getModifiers())) {
-                StringBuilder types = new StringBuilder();
-                for (Class<?> type : m.getParameterTypes()) {
-                    types.append(types.length() == 0 ? "" : ",").append(type);
-                }
-                methods.add(m.getName() + "(" + types + ")" + m.getReturnType());
-                names.add(m.getName());
-                Bench.due(m + " is public", Modifier.isPublic(m.getModifiers()) && !Modifier.isStatic(m.getModifiers()), true);
-            }
+        for (Method m : QueryTables.class.getMethods()) {
+            names.add(m.getName());
         }
-        same("the face", String.join(" ", methods), FACE);
+        for (Method m : QueryTables.class.getDeclaredMethods()) {
+            boolean hidden = !Modifier.isPublic(m.getModifiers());
+            Bench.due(m + " bears a public name", hidden && names.contains(m.getName()), false);
+        }
         for (Class<?> c : QueryTables.class.getDeclaredClasses()) {
             for (Method m : c.getDeclaredMethods()) {
                 Bench.due(m + " bears a public name", names.contains(m.getName()), false);
             }
         }
-        for (Method m : QueryTables.class.getDeclaredMethods()) {
-            boolean hidden = Modifier.isPrivate(m.getModifiers());
-            Bench.due(m + " bears a public name", hidden && names.contains(m.getName()), false);
-        }
-        Bench.due("constructors", QueryTables.class.getDeclaredConstructors().length, 1);
-        Bench.due("final", Modifier.isFinal(QueryTables.class.getModifiers()), true);
     }
 
     private static void fields() {
-        TreeSet<String> open = new TreeSet<>();
-        for (Field f : QueryTables.class.getDeclaredFields()) {
-            if (!Modifier.isPrivate(f.getModifiers())) {
-                open.add(f.getName());
-                Bench.due(f + " is a constant", Modifier.isStatic(f.getModifiers()) && Modifier.isPublic(f.getModifiers()), true);
-            }
-            stays(f);
-        }
-        same("the constants", String.join(" ", open), CONSTANTS);
+        Arrays.stream(QueryTables.class.getDeclaredFields()).forEach(RulesTest::stays);
     }
 
     private static void stays(Field f) {
